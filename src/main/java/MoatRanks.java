@@ -28,6 +28,7 @@ public final class MoatRanks {
     private static final int MOST_INVITES = 8;
     private static final int MOST_ACTS = 30;
     private static final int MOST_WIDE = 9;
+    private static final int BRIM_OF_WIDE = 5;
     private static final int MOST_LENGTH = 9;
     private static final int MOST_DRAINS = 20;
     private static final int MOST_WATER = 99;
@@ -1505,10 +1506,8 @@ public final class MoatRanks {
             for (int year = 0; year < years && year < MOST_YEARS; year++) {
                 rainAndDrain(year);
                 runOver(year);
-                for (int rank = 0; rank < realm.ranks; rank++) {
-                    if ((dredged[year] >> rank & 1) != 0) {
-                        water[cell(rank, year)] = 0;
-                    }
+                if (dredged[year] != 0) {
+                    emptyDredged(year);
                 }
             }
         }
@@ -1522,12 +1521,13 @@ public final class MoatRanks {
 
         private void rainAndDrain(int year) {
             boolean frost = isFrost(year);
+            int rain = realm.rainOf[year];
             for (int rank = 0; rank < realm.ranks; rank++) {
                 int at = cell(rank, year);
-                int there = year == 0 ? told[rank] : water[cell(rank, year - 1)];
+                int there = year == 0 ? told[rank] : water[at - MOST_RANKS];
                 int off = 0;
                 if (!frost) {
-                    there += realm.rainOf[year];
+                    there += rain;
                     off = Math.min(there, drains[rank]);
                 }
                 drained[at] = off;
@@ -1535,30 +1535,34 @@ public final class MoatRanks {
             }
         }
 
+        /** One moat behind the other, in the order in which what runs over goes on, if it does. */
         private void runOver(int year) {
             int ranks = realm.ranks;
+            int step = law == LAW_AHEAD ? -1 : 1;
+            boolean goesOn = law == LAW_NEXT || law == LAW_AHEAD;
+            int rank = law == LAW_AHEAD ? ranks - 1 : 0;
             lost[year] = 0;
             for (int i = 0; i < ranks; i++) {
-                int rank = law == LAW_AHEAD ? ranks - 1 - i : i;
                 int at = cell(rank, year);
-                int brim = law == LAW_STAYS ? MOST_WATER : 5 * realm.wide[rank];
+                int brim = law == LAW_STAYS ? MOST_WATER : BRIM_OF_WIDE * realm.wide[rank];
                 int above = Math.max(0, water[at] - brim);
                 spilled[at] = above;
                 water[at] -= above;
-                int to = neighbour(rank);
-                if (realm.hasRank(to)) {
-                    water[cell(to, year)] += above;
+                if (goesOn && i < ranks - 1) {
+                    water[at + step] += above;
                 } else {
                     lost[year] += above;
                 }
+                rank += step;
             }
         }
 
-        private int neighbour(int rank) {
-            if (law == LAW_NEXT) {
-                return rank + 1;
+        private void emptyDredged(int year) {
+            for (int rank = 0; rank < realm.ranks; rank++) {
+                if ((dredged[year] >> rank & 1) != 0) {
+                    water[cell(rank, year)] = 0;
+                }
             }
-            return law == LAW_AHEAD ? rank - 1 : NONE;
         }
 
         private boolean isFrost(int year) {
@@ -1777,7 +1781,10 @@ public final class MoatRanks {
             highest = told;
             size++;
             for (int year = 0; year < course.realm.years; year++) {
-                tally[year * (MOST_WATER + 1) + course.water[cell(rank, year)]]++;
+                int water = course.water[cell(rank, year)];
+                if (water >= 0 && water <= MOST_WATER) {
+                    tally[year * (MOST_WATER + 1) + water]++;
+                }
             }
         }
 
