@@ -5,17 +5,48 @@ final class Due {
     private final String test;
     private int asked = 0;
     private int wrong = 0;
+    private String sentence = "";
 
     Due(String test) {
         this.test = test;
+    }
+
+    /**
+     * What is asked from here on is what the document says at a place (a promise's number, a term's number, or TEXT
+     * for the text block) by these words. SentencesTest looks whether it does, and whether words are left over.
+     */
+    void says(String place, String words) {
+        sentence = " [" + place + ": " + words + "]";
     }
 
     void is(String call, long got, long want) {
         asked++;
         if (got != want) {
             wrong++;
-            System.out.println(test + ": " + call + " answered " + got + ", due is " + want);
+            System.out.println(test + ": " + call + " answered " + got + ", due is " + want + sentence);
         }
+    }
+
+    /** The text has a fault where ^ stands (which is not in it). */
+    void faultAt(String marked, int fault) {
+        int place = marked.indexOf('^');
+        MoatRanks x = new MoatRanks();
+        feedText(x, marked.substring(0, place) + marked.substring(place + 1));
+        is(marked, x.dukedom(), -4);
+        is("fault of " + marked, x.fault(0), fault);
+        is("place of " + marked, x.fault(1), place);
+        is("no dukedom by " + marked, x.count(9), 0);
+    }
+
+    /** The text has no fault, and so many lines. */
+    MoatRanks reads(String text, int lines) {
+        MoatRanks x = new MoatRanks();
+        feedText(x, text);
+        is(text, x.dukedom(), lines);
+        is("fault of " + text, x.fault(0), 0);
+        is("place of " + text, x.fault(1), -1);
+        is("lines of " + text, x.count(9), lines);
+        return x;
     }
 
     /** Ends the program, with exit code 1 if an answer was wrong. */

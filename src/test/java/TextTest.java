@@ -91,86 +91,76 @@ public final class TextTest {
         DUE.is("water", x.rank(0, 1), 2);
     }
 
-    /** The text has a fault where ^ stands (which is not in it). */
-    private static void faultAt(String marked, int fault) {
-        int place = marked.indexOf('^');
-        MoatRanks x = new MoatRanks();
-        Due.feedText(x, marked.substring(0, place) + marked.substring(place + 1));
-        DUE.is(marked, x.dukedom(), -4);
-        DUE.is("fault of " + marked, x.fault(0), fault);
-        DUE.is("place of " + marked, x.fault(1), place);
-    }
-
     private static void faultsOfPlace() {
-        faultAt("^;", 1);
-        faultAt("^7", 1);
-        faultAt("^rank wide 1 water 1 drains 1 swims 1;", 1);
-        faultAt("^dukedoms years 5 law 1 odds 3;", 1);
-        faultAt("  ^dukedo years 5 law 1 odds 3;", 1);
-        faultAt("^Dukedom years 5 law 1 odds 3;", 1);
-        faultAt("\t^dukedom".replace("\t^", "^\t"), 1);
-        faultAt("dukedom^", 1);
-        faultAt("dukedom  \n^", 1);
-        faultAt("dukedom ^5 law 1 odds 3;", 1);
-        faultAt("dukedom years ^law 1 odds 3;", 1);
-        faultAt("dukedom years ^-5 law 1 odds 3;", 1);
-        faultAt("dukedom years 5^, law 1 odds 3;", 1);
-        faultAt("dukedom years 5 ^odds 1 law 3;", 1);
-        faultAt("dukedom years 5 law 1 odds 3^", 1);
-        faultAt("dukedom years 5 law 1 odds 3 ^rank", 1);
-        faultAt("dukedom years 5 law 1 odds 3 ^4;", 1);
-        faultAt(HEAD + "^;", 1);
-        faultAt(HEAD + " ^dukedom years 5 law 1 odds 3;", 1);
-        faultAt(HEAD + "^ranks wide 1", 1);
-        faultAt(HEAD + "^9", 1);
-        faultAt(HEAD + "^\u00e4", 1);
-        faultAt(HEAD + "^\u0000", 1);
-        faultAt(HEAD + "rank wide 1 ^drains 1", 1);
-        faultAt(HEAD + "rank wide 1 water 1 drains 1 swims 1^", 1);
-        faultAt(TWO + "plank 1 ^at 0;", 1);
-        faultAt(TWO + "plank ^on 0;", 1);
-        faultAt(TWO + "rain 1 ^on 0;", 1);
-        faultAt(TWO + "frost ^0;", 1);
-        faultAt(TWO + "invite 0 ^at 0;", 1);
-        faultAt(TWO + "invite 0 1 ^0;", 1);
-        faultAt(TWO + "invite 0 1 at 0 ^at", 1);
+        DUE.faultAt("^;", 1);
+        DUE.faultAt("^7", 1);
+        DUE.faultAt("^rank wide 1 water 1 drains 1 swims 1;", 1);
+        DUE.faultAt("^dukedoms years 5 law 1 odds 3;", 1);
+        DUE.faultAt("  ^dukedo years 5 law 1 odds 3;", 1);
+        DUE.faultAt("^Dukedom years 5 law 1 odds 3;", 1);
+        DUE.faultAt("\t^dukedom".replace("\t^", "^\t"), 1);
+        DUE.faultAt("dukedom^", 1);
+        DUE.faultAt("dukedom  \n^", 1);
+        DUE.faultAt("dukedom ^5 law 1 odds 3;", 1);
+        DUE.faultAt("dukedom years ^law 1 odds 3;", 1);
+        DUE.faultAt("dukedom years ^-5 law 1 odds 3;", 1);
+        DUE.faultAt("dukedom years 5^, law 1 odds 3;", 1);
+        DUE.faultAt("dukedom years 5 ^odds 1 law 3;", 1);
+        DUE.faultAt("dukedom years 5 law 1 odds 3^", 1);
+        DUE.faultAt("dukedom years 5 law 1 odds 3 ^rank", 1);
+        DUE.faultAt("dukedom years 5 law 1 odds 3 ^4;", 1);
+        DUE.faultAt(HEAD + "^;", 1);
+        DUE.faultAt(HEAD + " ^dukedom years 5 law 1 odds 3;", 1);
+        DUE.faultAt(HEAD + "^ranks wide 1", 1);
+        DUE.faultAt(HEAD + "^9", 1);
+        DUE.faultAt(HEAD + "^\u00e4", 1);
+        DUE.faultAt(HEAD + "^\u0000", 1);
+        DUE.faultAt(HEAD + "rank wide 1 ^drains 1", 1);
+        DUE.faultAt(HEAD + "rank wide 1 water 1 drains 1 swims 1^", 1);
+        DUE.faultAt(TWO + "plank 1 ^at 0;", 1);
+        DUE.faultAt(TWO + "plank ^on 0;", 1);
+        DUE.faultAt(TWO + "rain 1 ^on 0;", 1);
+        DUE.faultAt(TWO + "frost ^0;", 1);
+        DUE.faultAt(TWO + "invite 0 ^at 0;", 1);
+        DUE.faultAt(TWO + "invite 0 1 ^0;", 1);
+        DUE.faultAt(TWO + "invite 0 1 at 0 ^at", 1);
     }
 
     private static void faultsOfBounds() {
-        faultAt("dukedom years ^0 law 1 odds 3;", 2);
-        faultAt("dukedom years ^17 law 1 odds 3;", 2);
-        faultAt("dukedom years ^17", 2);
-        faultAt("dukedom years ^4294967301 law 1 odds 3;", 2);
-        faultAt("dukedom years ^18446744073709551617 law 1 odds 3;", 2);
-        faultAt("dukedom years 1 law ^4 odds 3;", 2);
-        faultAt("dukedom years 1 law 3 odds ^11;", 2);
-        faultAt(HEAD + "rank wide ^0 water 0 drains 0 swims 0;", 2);
-        faultAt(HEAD + "rank wide ^10 water 0 drains 0 swims 0;", 2);
-        faultAt(HEAD + "rank wide 9 water ^100 drains 0 swims 0;", 2);
-        faultAt(HEAD + "rank wide 9 water 99 drains ^21 swims 0;", 2);
-        faultAt(HEAD + "rank wide 9 water 99 drains 20 swims ^31;", 2);
-        faultAt(HEAD + "plank 1 on ^0;", 2);
-        faultAt(TWO + "plank ^0 on 0;", 2);
-        faultAt(TWO + "plank ^10 on 0;", 2);
-        faultAt(TWO + "plank 9 on ^2;" + RANK, 2);
-        faultAt(HEAD + "rain ^0 at 0;", 2);
-        faultAt(HEAD + "rain ^41 at 0;", 2);
-        faultAt(HEAD + "rain 40 at ^16;", 2);
-        faultAt(HEAD + "frost at ^16;", 2);
-        faultAt(TWO + "invite ^2 0 at 0;", 2);
-        faultAt(TWO + "invite 0 ^2 at 0;", 2);
-        faultAt(TWO + "invite 1 ^1 at 0;", 2);
-        faultAt(TWO + "invite 0 1 at ^16;", 2);
-        faultAt(HEAD + "invite ^0 0 at 0;", 2);
+        DUE.faultAt("dukedom years ^0 law 1 odds 3;", 2);
+        DUE.faultAt("dukedom years ^17 law 1 odds 3;", 2);
+        DUE.faultAt("dukedom years ^17", 2);
+        DUE.faultAt("dukedom years ^4294967301 law 1 odds 3;", 2);
+        DUE.faultAt("dukedom years ^18446744073709551617 law 1 odds 3;", 2);
+        DUE.faultAt("dukedom years 1 law ^4 odds 3;", 2);
+        DUE.faultAt("dukedom years 1 law 3 odds ^11;", 2);
+        DUE.faultAt(HEAD + "rank wide ^0 water 0 drains 0 swims 0;", 2);
+        DUE.faultAt(HEAD + "rank wide ^10 water 0 drains 0 swims 0;", 2);
+        DUE.faultAt(HEAD + "rank wide 9 water ^100 drains 0 swims 0;", 2);
+        DUE.faultAt(HEAD + "rank wide 9 water 99 drains ^21 swims 0;", 2);
+        DUE.faultAt(HEAD + "rank wide 9 water 99 drains 20 swims ^31;", 2);
+        DUE.faultAt(HEAD + "plank 1 on ^0;", 2);
+        DUE.faultAt(TWO + "plank ^0 on 0;", 2);
+        DUE.faultAt(TWO + "plank ^10 on 0;", 2);
+        DUE.faultAt(TWO + "plank 9 on ^2;" + RANK, 2);
+        DUE.faultAt(HEAD + "rain ^0 at 0;", 2);
+        DUE.faultAt(HEAD + "rain ^41 at 0;", 2);
+        DUE.faultAt(HEAD + "rain 40 at ^16;", 2);
+        DUE.faultAt(HEAD + "frost at ^16;", 2);
+        DUE.faultAt(TWO + "invite ^2 0 at 0;", 2);
+        DUE.faultAt(TWO + "invite 0 ^2 at 0;", 2);
+        DUE.faultAt(TWO + "invite 1 ^1 at 0;", 2);
+        DUE.faultAt(TWO + "invite 0 1 at ^16;", 2);
+        DUE.faultAt(HEAD + "invite ^0 0 at 0;", 2);
     }
 
     private static void faultsOfNumber() {
-        faultAt(HEAD + RANK.repeat(6) + "^" + RANK, 3);
-        faultAt(HEAD + RANK.repeat(6) + "^rank wide 0", 3);
-        faultAt(TWO + "plank 1 on 0;".repeat(5) + "^plank", 3);
-        faultAt(HEAD + "rain 1 at 0;".repeat(5) + " ^rain 1 at 0;", 3);
-        faultAt(HEAD + "frost at 0;".repeat(4) + "\n^frost at 0;", 3);
-        faultAt(TWO + "invite 0 1 at 0;".repeat(8) + "^invite 0 1 at 0;", 3);
+        DUE.faultAt(HEAD + RANK.repeat(6) + "^" + RANK, 3);
+        DUE.faultAt(HEAD + RANK.repeat(6) + "^rank wide 0", 3);
+        DUE.faultAt(TWO + "plank 1 on 0;".repeat(5) + "^plank", 3);
+        DUE.faultAt(HEAD + "rain 1 at 0;".repeat(5) + " ^rain 1 at 0;", 3);
+        DUE.faultAt(HEAD + "frost at 0;".repeat(4) + "\n^frost at 0;", 3);
+        DUE.faultAt(TWO + "invite 0 1 at 0;".repeat(8) + "^invite 0 1 at 0;", 3);
         MoatRanks x = new MoatRanks();
         Due.feedText(x, "dukedom years 16 law 3 odds 0;" + RANK.repeat(6) + "plank 1 on 5;".repeat(5) + "rain 1 at 15;".repeat(5)
                 + "frost at 15;".repeat(4) + "invite 5 4 at 15;".repeat(8));
