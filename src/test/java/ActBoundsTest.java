@@ -305,6 +305,7 @@ public final class ActBoundsTest {
             Due.feedText(x, k == 1 ? "" : k == 0 ? HEAD : Texts.COURT);
             x.dukedom();
         }
+        whole();
         DUE.says("72", "IMAGE k (0 .. 2) keeps the DUKEDOM, and acts: 0.");
         DUE.is("one line is told", x.count(9), 1);
         DUE.is("in place of another one", x.image(1), 0);
@@ -325,5 +326,43 @@ public final class ActBoundsTest {
         DUE.is("none", x.keeps(), -2);
         DUE.is("still none", x.back(0), 0);
         DUE.is("nothing in 1", x.back(1), -6);
+    }
+
+    /** Other numbers in each place than in COURT. */
+    private static final String OTHER = "dukedom years 16 law 2 odds 7;" + "rank wide 7 water 33 drains 5 swims 11;".repeat(6)
+            + "plank 9 on 5;".repeat(5) + "rain 13 at 0; rain 9 at 4; rain 1 at 1; rain 2 at 2; rain 3 at 3; frost at 0; frost at 1; frost at 4;"
+            + "frost at 3;" + "invite 3 4 at 3;".repeat(8);
+
+    private static MoatRanks imaged(String text, String other, int k) {
+        MoatRanks x = Due.told(text);
+        x.digs(1, 3);
+        x.adds(2, 1);
+        x.dredge(0, 1);
+        x.adds(9, 2);
+        x.dredge(1, 0);
+        x.image(k);
+        if (!other.isEmpty()) {
+            Due.feedText(x, other);
+            x.dukedom();
+            for (int i = 0; i < 9; i++) {
+                x.adds(1, 0);
+            }
+            x.back(k);
+        }
+        return x;
+    }
+
+    /** All that can be asked is as it was when the image was taken, whatever was told since. */
+    private static void whole() {
+        String two = "dukedom years 1 law 3 odds 1; rank wide 1 water 1 drains 1 swims 1;";
+        for (int k = 0; k < 3; k++) {
+            int image = k;
+            for (String text : new String[] {Texts.COURT, OTHER, OTHER.replace("years 16", "years 7")}) {
+                for (String other : new String[] {OTHER, two, Texts.COURT}) {
+                    boolean same = State.of(() -> imaged(text, "", image)).equals(State.of(() -> imaged(text, other, image)));
+                    DUE.is("all is as image " + k + " has it", same ? 1 : 0, 1);
+                }
+            }
+        }
     }
 }

@@ -95,6 +95,7 @@ public final class InviteBoundsTest {
         DUE.says("40", "The RANK whose hosts() is greatest, the first of several, if above 0.");
         DUE.is("the last one", x.host(), 5);
         DUE.is("the first of two", Due.told(HEAD + rank(1, 0, 0).repeat(6) + "invite 0 5 at 0; invite 0 4 at 0;").host(), 4);
+        DUE.is("the first one", Due.told(HEAD + rank(1, 0, 0).repeat(6) + "invite 5 0 at 0; invite 0 4 at 0; invite 4 0 at 0;").host(), 0);
         DUE.is("by one", Due.told(HEAD + rank(1, 0, 0).repeat(6) + "invite 0 5 at 0; invite 0 4 at 0; invite 1 5 at 0;").host(), 5);
         DUE.is("of those kept alone", Due.told(HEAD + rank(1, 0, 0) + rank(1, 1, 0) + rank(1, 0, 0)
                 + "invite 0 1 at 0; invite 2 1 at 0; invite 0 2 at 0;").host(), 2);
@@ -160,12 +161,19 @@ public final class InviteBoundsTest {
         row("no planks", Due.told(HEAD + rank(1, 0, 0).repeat(2) + "invite 0 1 at 0;"), 1, 1);
         row("no ranks", Due.told(HEAD), 0, 1);
         row("one rank", Due.told(HEAD + rank(1, 99, 0) + "plank 9 on 0;".repeat(5)), 0, 32, -1, -1, -1, -1, -1);
+        DUE.is("lay asked first of all", Due.told(SIX + five + RING).lay(4), 4);
+        DUE.is("ways asked first of all", Due.told(SIX + five + RING).ways(), 120);
         DUE.says("V", "in place of where it lies (those of acts stay).");
         MoatRanks x = Due.told(SIX + "plank 9 on 0;" + "invite 0 1 at 0;");
         row("one plank is too few", x, 0, 7, -1);
         x.adds(9, 1);
         row("an act's plank stays", x, 1, 1, 0);
         x.adds(9, 0);
+        DUE.is("lay asked first behind an act", x.lay(0), -1);
+        x.undo();
+        DUE.is("lay asked first behind one taken back", x.lay(0), 0);
+        x.adds(9, 0);
+        DUE.is("ways asked first behind an act", x.ways(), 7);
         row("both do", x, 1, 7, -1);
         DUE.is("planks of acts are not laid", x.lay(1), -2);
         DUE.says("42", "-2: there is no DUKEDOM.");

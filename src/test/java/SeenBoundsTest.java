@@ -142,6 +142,9 @@ public final class SeenBoundsTest {
         x = Due.told("dukedom years 2 law 0 odds 0;" + rank(9, 50, 0) + "rain 40 at 0; rain 40 at 0; rain 18 at 0;");
         see(x, 0);
         all("98 by 0, else 99", x, 0, 0, 100, 0, 99, 0, 99);
+        MoatRanks y = Due.told("dukedom years 2 law 0 odds 0;" + rank(9, 50, 20) + "rain 40 at 1;".repeat(5));
+        see(y, 0);
+        all("21 are dry in year 0, all have 99 in year 1", y, 0, 0, 100, 0, 99, 0, 21);
         see(x, 0, 0, 0, 99);
         all("not 0", x, 0, 0, 99, 1, 99, -1, 99);
         see(x, 0, 0, 1, 98);

@@ -149,6 +149,7 @@ public final class TextBoundsTest {
             DUE.reads(ahead + String.join(" ", LINES[kind]), kind == 0 ? 1 : 4);
             for (int at = 0; at < LINES[kind].length; at++) {
                 spoil(ahead, LINES[kind], at);
+                misspell(ahead, LINES[kind], at);
             }
         }
         DUE.says("I", "dukedom is the first LINE and no other:");
@@ -174,6 +175,25 @@ public final class TextBoundsTest {
             }
         }
         return s.toString();
+    }
+
+    /** Another letter in each place of a word, one less, one more, the word twice: 1, at the word. */
+    private static void misspell(String ahead, String[] line, int at) {
+        String word = line[at];
+        if (!Character.isLetter(word.charAt(0))) {
+            return;
+        }
+        for (int i = 0; i < word.length(); i++) {
+            for (char c : new char[] {'a', 'q', 'z'}) {
+                String other = word.substring(0, i) + c + word.substring(i + 1);
+                if (!other.equals(word)) {
+                    DUE.faultAt(joined(ahead, line, at, "^", new String[] {other}), 1);
+                }
+            }
+            DUE.faultAt(joined(ahead, line, at, "^", new String[] {word.substring(0, i) + word.substring(i + 1)}), 1);
+            DUE.faultAt(joined(ahead, line, at, "^", new String[] {word.substring(0, i) + "z" + word.substring(i)}), 1);
+        }
+        DUE.faultAt(joined(ahead, line, at, "^", new String[] {word + word}), 1);
     }
 
     /** The line without a token, with another one in its place, or ending ahead of it: 1, there. */
@@ -349,14 +369,17 @@ public final class TextBoundsTest {
         String ahead = "dukedom years 5 law 1 odds 3";
         for (int b = 0; b < 256; b++) {
             char c = (char) b;
-            if (c == ' ' || c == '\n') {
+            boolean isLetter = c >= 'a' && c <= 'z';
+            boolean isBlank = c == ' ' || c == '\n';
+            DUE.faultAt(isLetter ? "^dukedom" + c : isBlank ? "dukedom" + c + "^" : "dukedom^" + c, 1);
+            if (isBlank) {
                 DUE.reads(ahead + c + ";", 1);
                 DUE.reads(c + ahead + ";" + c, 1);
                 DUE.faultAt("dukedom years 5 law 1 ^od" + c + "ds 3;", 1);
             } else if (c >= '0' && c <= '9') {
                 DUE.faultAt("dukedom years 5 law 1 odds ^3" + c + ";", 2);
                 DUE.faultAt("^" + c + ahead + ";", 1);
-            } else if (c >= 'a' && c <= 'z') {
+            } else if (isLetter) {
                 DUE.faultAt(ahead + "^" + c + ";", 1);
                 DUE.faultAt("^" + c + ahead + ";", 1);
             } else if (c == ';') {
@@ -428,6 +451,20 @@ public final class TextBoundsTest {
         }
         DUE.is("no rain of the other one", x.rains(), 0);
         DUE.is("no frost of the other one", x.frosts(), 0);
+        x = new MoatRanks();
+        for (int i = 0; i < 3; i++) {
+            Due.feedText(x, Texts.COURT);
+            x.dukedom();
+            for (String text : new String[] {"dukedom years 5 law 0 odds 0;", "dukedom years 5 law 0 odds 0;", "", "", "dukedom years 5 law 0 odds 0;"}) {
+                Due.feedText(x, text);
+                DUE.is("in place of another", x.dukedom(), text.isEmpty() ? 0 : 1);
+                DUE.is("rain is gone", x.rain(1), text.isEmpty() ? -2 : 0);
+                DUE.is("frost is gone", x.frosts(), text.isEmpty() ? -2 : 0);
+                for (int what = 0; what <= 11; what++) {
+                    DUE.is("count(" + what + ")", x.count(what), text.isEmpty() ? 0 : what == 0 ? 5 : what == 9 ? 1 : 0);
+                }
+            }
+        }
         DUE.says("4", "how many LINES (0: there is none then).");
         DUE.reads(FULL, 29);
         DUE.is("no text: there is none then", x.dukedom(), 0);

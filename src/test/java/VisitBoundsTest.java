@@ -173,6 +173,14 @@ public final class VisitBoundsTest {
         DUE.is("none in any: the first", Due.told(SIX).fair(), 0);
         DUE.is("all in all: the first", Due.told(HEAD + rank(1, 0, 0).repeat(6)).fair(), 0);
         DUE.is("two alike", Due.told(SIX + "frost at 15; frost at 3;").fair(), 3);
+        DUE.is("the first year", Due.told(SIX + "frost at 0;").fair(), 0);
+        DUE.is("the second year", Due.told(SIX + "frost at 1;").fair(), 1);
+        // 15 pairs in frost of year 0, none in year 1, one from year 2 on, when the moats of 0 and 1 are dry
+        x = Due.told(HEAD + rank(9, 2, 0).replace("drains 0", "drains 1").repeat(2) + rank(9, 99, 0).repeat(4) + "frost at 0;");
+        DUE.is("all in frost", x.friends(0), 15);
+        DUE.is("none behind it", x.friends(1), 0);
+        DUE.is("one then", x.friends(2), 1);
+        DUE.is("most in the first year", x.fair(), 0);
         DUE.is("those in a row", Due.told(CHAIN).friends(0), 5);
         x = Due.told(HEAD + rank(1, 5, 6) + rank(1, 6, 5) + rank(1, 7, 9));
         DUE.is("0 comes to 1, who can't come; 2 to both", x.friends(0), 0);
@@ -196,6 +204,8 @@ public final class VisitBoundsTest {
         DUE.is("no ranks", Due.told(HEAD).lone(), 0);
         DUE.is("the deepest one", Due.told(HEAD + rank(1, 0, 0).repeat(5) + rank(1, 1, 0)).lone(), 32);
         DUE.is("the one who could come but can't come out is a guest of none", Due.told(HEAD + rank(1, 3, 2) + rank(1, 0, 0)).lone(), 3);
+        DUE.is("the first rank alone comes to the last", Due.told(HEAD + rank(1, 0, 9) + rank(1, 9, 0).repeat(5)).lone(), 1);
+        DUE.is("the last rank alone comes to the first", Due.told(HEAD + rank(1, 9, 0).repeat(5) + rank(1, 0, 9)).lone(), 32);
         DUE.says("23", "-2 likewise.");
         DUE.is("no dukedom", new MoatRanks().lone(), -2);
     }

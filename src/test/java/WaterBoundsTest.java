@@ -173,6 +173,15 @@ public final class WaterBoundsTest {
         DUE.is("in frost, too", x.water(1, 1), 0);
         DUE.is("not ahead of it", x.water(1, 0), 10);
         DUE.is("rain", x.water(1, 2), 2);
+        x = Due.told(head(2, 3) + rank(1, 9, 0) + rank(1, 5, 0) + "rain 2 at 1;");
+        for (int acts = 1; acts <= 3; acts++) {
+            x.dredge(1, 0);
+            DUE.is("lost is what it was, behind " + acts, x.lost(0), 4);
+            DUE.is("lost behind it: 2 of moat 0", x.lost(1), 2);
+        }
+        x = Due.told(head(3, 1) + rank(1, 9, 1) + rank(9, 7, 0) + "rain 2 at 2; frost at 1;");
+        x.dredge(0, 0);
+        x.dredge(1, 1);
         x.dredge(1, 1);
         DUE.is("twice", x.water(1, 1), 0);
         x.undo();
