@@ -118,6 +118,12 @@ final class State {
             is(x.undo());
         }
         is(x.anew());
+        // gone back to at once: what is kept of acts, worked out anew
+        another();
+        is(x.image(0), x.back(0), x.count(8), x.keeps());
+        for (int rank = 0; rank < 6; rank++) {
+            is(x.rank(rank, 0), x.fords(rank, 0), x.fords(rank, 1), x.fords(rank, 5), x.fords(rank, 12), x.most(rank), x.wet(rank), x.dries(rank));
+        }
     }
 
     private void images() {
