@@ -12,8 +12,8 @@ final class Due {
     }
 
     /**
-     * What is asked from here on is what the document says at a place (a promise's number, a term's number, or TEXT
-     * for the text block) by these words. SentencesTest looks whether it does, and whether words are left over.
+     * What is asked from here on is what the document says at a place (a promise's number, a term's number, TEXT for
+     * the text block, or USE for what stands ahead of the face) by these words. SentencesTest looks whether it does, and whether words are left over.
      */
     void says(String place, String words) {
         sentence = " [" + place + ": " + words + "]";

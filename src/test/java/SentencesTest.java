@@ -18,7 +18,7 @@ public final class SentencesTest {
 
     public static void main(String[] args) throws Exception {
         Map<String, String> places = places(Files.readString(DOCUMENT));
-        DUE.is("promises, terms and the text block", places.size(), 76 + 9 + 1);
+        DUE.is("promises, terms, the text block and how an object is used", places.size(), 76 + 9 + 1 + 1);
         Map<String, boolean[]> said = new LinkedHashMap<>();
         places.forEach((place, text) -> said.put(place, new boolean[text.length()]));
         try (DirectoryStream<Path> files = Files.newDirectoryStream(TESTS, "*Test.java")) {
@@ -35,6 +35,9 @@ public final class SentencesTest {
 
     private static Map<String, String> places(String document) {
         Map<String, String> found = new LinkedHashMap<>();
+        // ahead of it the class is told in short, behind it stands the face, which RulesTest looks at
+        String what = between(document, "## What it is\n", "## The public face");
+        found.put("USE", what.substring(what.indexOf("An object is used")).trim());
         String terms = between(document, "## Terms\n", "## Promise 1:");
         Matcher m = Pattern.compile("(?m)^([IVX]+)\\. (.*)$").matcher(terms);
         while (m.find()) {
